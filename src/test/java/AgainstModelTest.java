@@ -5,7 +5,7 @@ import java.util.Random;
 
 /** Songs made at random (always the same ones), read by SongReader and by SongModel: no answer may differ. */
 public final class AgainstModelTest {
-    private static final int SONGS = 6000;
+    private static final int SONGS = 4000;
 
     private static int wrong = 0;
     private static final int[] reads = new int[8];
@@ -178,7 +178,7 @@ public final class AgainstModelTest {
         for (int i = 0; i < q; i++) {
             numbers[i] = below(1 << numberBits);
         }
-        bits.values(below(256), chance(60) ? below(4) : below(256), chance(40), numberBits, numbers);
+        bits.values(below(256), chance(50) ? below(4) : below(256), chance(40), numberBits, numbers);
     }
 
     private int[] xs() {
@@ -237,6 +237,10 @@ public final class AgainstModelTest {
         Collections.shuffle(depths, random);
         if (chance(1)) {
             depths.set(below(depths.size()), below(16));
+        }
+        if (chance(1)) {
+            int least = below(15) + 1;
+            depths.replaceAll(depth -> least + below(16 - least));
         }
         int[] lengths = new int[depths.size()];
         for (int i = 0; i < lengths.length; i++) {

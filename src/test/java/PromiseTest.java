@@ -287,10 +287,22 @@ public final class PromiseTest {
         x.page(x.taped(), 4, 3, 2, 9, false);
         due("another SERIAL's LAST", x.read(), 16);
         due("another SERIAL", x.look(1), 1);
-        // The fifth byte is 0, or it is no PAGE.
-        List<Integer> versionOne = SongModel.pageOf(0, 0, 1, 0, SongWriter.row(1), SongWriter.row(86));
-        versionOne.set(4, 1);
-        due("a fifth byte of 1", readRightCrc(x, versionOne), -1);
+        // Another first to fifth byte, and it is no PAGE, even if its CRC is right.
+        for (int i = 0; i < 5; i++) {
+            for (int turn = 1; turn < 256; turn *= 2) {
+                List<Integer> page = SongModel.pageOf(0, 0, 1, 0, SongWriter.row(1), SongWriter.row(86));
+                page.set(i, page.get(i) ^ turn);
+                due("another byte " + i, readRightCrc(x, page), -1);
+            }
+        }
+        // A PAGE of no LACES at the TAPE's end; one byte less, and it is none.
+        x.page(0, 0, 0, 1, 0, true);
+        x.read();
+        due("a PAGE of 27 bytes", x.look(0), 1);
+        x.page(0, 0, 0, 1, 0, true);
+        x.end(26);
+        x.read();
+        due("26 bytes of a PAGE", x.look(0), 0);
     }
 
     /** The bytes with a CRC of their own, put right byte by byte by the document's words. */
@@ -722,6 +734,31 @@ public final class PromiseTest {
     }
 
     private static void promise6Leaning() {
+        for (int m = -1; m <= 1; m++) {
+            for (int a = -1; a <= 1; a++) {
+                SongWriter setup = new SongWriter().start(2, 2).lengths(1, 1, 2, 2).values(-1, 1, false, 2, 0, 1, 2)
+                    .book(1, 1).posts(1, 1).classes(0, 1, 0).put(1, 1);
+                String[] words = {"0", "10", "11"};
+                SongWriter sound = new SongWriter().put(1, 1).put(255, 8).put(255, 8)
+                    .put(1, 1).put(255, 8).put(255, 8);
+                int[][] told = new int[2][16];
+                for (int k = 0; k < 16; k++) {
+                    told[0][k] = m;
+                    sound.word("0").word(words[m + 1]);
+                }
+                for (int k = 0; k < 16; k++) {
+                    told[1][k] = a;
+                    sound.word("0").word(words[a + 1]);
+                }
+                SongReader x = new SongReader();
+                readSong(x, setup.bytes(), SongWriter.row(0), sound.bytes());
+                dueLeaning("LEANING of " + m + " and " + a, x, told, -1);
+            }
+        }
+        leaningOfAll();
+    }
+
+    private static void leaningOfAll() {
         int[] kinds = {50, 20, 0, -20, -50};
         SongWriter setup = new SongWriter().start(2, 2).lengths(1, 3, 3, 2, 2, 2).values(-50, 10, false, 4, 10, 7, 5, 3, 0)
             .book(1, 1).posts(1, 1).classes(0, 1, 0).put(1, 1);
@@ -863,12 +900,15 @@ public final class PromiseTest {
         long[] granules = {0, 1, 15, 31, 32, 100, -1, Long.MIN_VALUE, Long.MAX_VALUE, 1L << 32, (1L << 32) + 3};
         int[] samples = {0, 1, 15, 31, 32, 32, 32, 32, 32, 32, 32};
         for (int i = 0; i < granules.length; i++) {
-            for (int flags = 0; flags < 8; flags += 4) {
+            for (int flags = 0; flags < 8; flags++) {
+                boolean last = flags >= 4;
                 layPage(x, 0, 5, 0, setup);
                 layPage(x, 4, 5, 1, SongWriter.row(0));
                 layPage(x, 0, 5, 2, SongWriter.row(0));
-                layPage(x, flags, granules[i], 3, SongWriter.row(0));
-                due("GRANULE " + granules[i] + " FLAGS " + flags, x.read(), flags == 4 ? samples[i] : 32);
+                layPage(x, 0, 5, 3, SongWriter.row(0));
+                // Behind the last PACKET, so that GOES ON throws nothing away.
+                x.page(x.taped(), flags, granules[i], 1, 4, true);
+                due("GRANULE " + granules[i] + " FLAGS " + flags, x.read(), last ? samples[i] : 32);
                 due("GRANULE: the SOUNDS stay", x.look(3), 3);
             }
         }
@@ -971,6 +1011,10 @@ public final class PromiseTest {
         due("the sum goes round", x.sum(0), (int) total);
         due("the sum goes round indeed", total != (int) total, true);
         due("no SAMPLE behind the last", x.sample(0, 928), 0);
+        for (int i = 16; i < 928; i++) {
+            due("like SOUNDS give like SAMPLES, " + i, x.sample(0, i), x.sample(0, i % 16));
+        }
+        due("they are heard", x.sample(0, 0) != 0, true);
     }
 
     private static void promise10Taped() {

@@ -516,6 +516,11 @@ public final class PromiseTest {
         due("63 of 6 and a 5", treeFault(sixes), -4);
         java.util.Arrays.fill(sixes, 15);
         due("64 of 15", treeFault(sixes), -4);
+        // More forks than a whole tree of 64 has, the last of them in the midst of a word.
+        int[] deep = new int[56];
+        java.util.Arrays.fill(deep, 15);
+        deep[54] = 14;
+        due("54 of 15, a 14, a 15", treeFault(deep), -4);
         // Known behind its LENGTHS: no bit comes behind them here.
         SongWriter ends = new SongWriter().start(1, 1).lengths(1, 1, 2, 2, 1, 1);
         due("bits come out even", ends.bits() % 8, 0);

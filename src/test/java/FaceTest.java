@@ -227,9 +227,13 @@ public final class FaceTest {
     private static void checkAnyArguments() {
         int[] numbers = {0, 1, -1, 2, 7, 8, 20, 27, 28, 255, 5999, 6000, 6001, Integer.MAX_VALUE, Integer.MIN_VALUE};
         Random random = new Random(5);
-        for (int round = 0; round < 2000; round++) {
+        for (int round = 0; round < 10000; round++) {
             SongReader x = new SongReader();
-            for (int call = 0; call < 60; call++) {
+            // Some begin with a TAPE that is nearly full; all stay below the 512 calls that are promised.
+            for (int i = 0; round % 3 == 0 && i < 295; i++) {
+                x.feed(i, round, 0x4f676753, 0, 0);
+            }
+            for (int call = 0; call < 12; call++) {
                 int a = numbers[random.nextInt(numbers.length)];
                 int b = numbers[random.nextInt(numbers.length)];
                 callSome(x, random.nextInt(12), a, b, random);
@@ -251,7 +255,7 @@ public final class FaceTest {
             case 6 -> x.sum(a);
             case 7 -> x.page(Math.max(0, x.taped() - random.nextInt(40)), b, a, 1, b, false);
             default -> {
-                for (int i = 0; i < 1 + random.nextInt(60); i++) {
+                for (int i = random.nextInt(15); i >= 0; i--) {
                     x.feed(a, b, random.nextInt(), random.nextInt(), random.nextInt());
                 }
             }

@@ -58,15 +58,15 @@ public final class PromiseTest {
         return bits.bytes();
     }
 
-    private static void layPage(SongReader x, int flags, long granule, int number, List<Integer> packet) {
+    private static void layPage(Reader x, int flags, long granule, int number, List<Integer> packet) {
         int from = x.taped();
-        SongWriter.lay(x, packet);
+        Songs.lay(x, packet);
         x.page(from, flags, granule, 1, number, false);
     }
 
     /** Each PACKET on a PAGE of its own, then read. */
     @SafeVarargs
-    private static int readSong(SongReader x, List<Integer>... packets) {
+    private static int readSong(Reader x, List<Integer>... packets) {
         x.end(0);
         for (int i = 0; i < packets.length; i++) {
             layPage(x, i == packets.length - 1 ? 4 : 0, -1, i, packets[i]);
@@ -75,7 +75,7 @@ public final class PromiseTest {
     }
 
     private static int setupFault(SongWriter setup) {
-        return readSong(new SongReader(), setup.bytes());
+        return readSong(new Reader(), setup.bytes());
     }
 
     /** What one full-height CURVE makes of one number at k = 0: the document's sums, written out. */
@@ -96,7 +96,7 @@ public final class PromiseTest {
     // ---- the promises ----
 
     private static void promise1NewObject() {
-        SongReader x = new SongReader();
+        Reader x = new Reader();
         due("new: taped", x.taped(), 0);
         for (int what = 0; what < 8; what++) {
             due("new: look " + what, x.look(what), 0);
@@ -105,13 +105,13 @@ public final class PromiseTest {
         due("new: sum", x.sum(0), 0);
         due("new: no byte to harm", x.harm(0, 1), false);
         due("new: read finds no PACKET", x.read(), -1);
-        SongReader fed = new SongReader();
+        Reader fed = new Reader();
         fed.feed(1, 2, 3, 4, 5);
-        due("new: an object does not share its TAPE", new SongReader().taped(), 0);
+        due("new: an object does not share its TAPE", new Reader().taped(), 0);
     }
 
     private static void promise2Feed() {
-        SongReader x = new SongReader();
+        Reader x = new Reader();
         // A PAGE by hand, its CRC by the document's words: the bytes lie highest first.
         List<Integer> page = SongModel.pageOf(0, 0, 0x01020304, 0, SongWriter.row(1), SongWriter.row(86));
         int[] numbers = new int[10];
@@ -135,7 +135,7 @@ public final class PromiseTest {
     }
 
     private static void promise3End() {
-        SongReader x = new SongReader();
+        Reader x = new Reader();
         due("end(0) of none", x.end(0), true);
         due("end(1) of none", x.end(1), false);
         x.feed(0, 0, 0, 0, 0);
@@ -158,7 +158,7 @@ public final class PromiseTest {
     }
 
     private static void promise4Harm() {
-        SongReader x = new SongReader();
+        Reader x = new Reader();
         x.feed(87 << 24, 0, 0, 0, 0);
         due("harm the first", x.harm(0, 1), true);
         due("harm the last", x.harm(19, 0), true);
@@ -175,11 +175,12 @@ public final class PromiseTest {
         due("harm with 256 turns nothing", x.read(), -2);
         // Every bit of a PAGE counts for its CRC; turned twice it is right again.
         for (int bit = 0; bit < 8 * 29; bit++) {
-            x.feed(86 << 24, 0, 0, 0, 0);
-            x.end(1);
-            x.page(0, 0, 0, 1, 0, false);
-            x.harm(bit / 8, 1 << (bit % 8));
-            due("harm of bit " + bit, x.read(), -1);
+            Reader one = new Reader();
+            one.feed(86 << 24, 0, 0, 0, 0);
+            one.end(1);
+            one.page(0, 0, 0, 1, 0, false);
+            one.harm(bit / 8, 1 << (bit % 8));
+            due("harm of bit " + bit, one.read(), -1);
         }
         x.feed(86 << 24, 0, 0, 0, 0);
         x.end(1);
@@ -193,7 +194,7 @@ public final class PromiseTest {
     }
 
     private static void promise5Page() {
-        SongReader x = new SongReader();
+        Reader x = new Reader();
         due("page(-1)", x.page(-1, 0, 0, 1, 0, false), -1);
         due("page(1) of none", x.page(1, 0, 0, 1, 0, false), -1);
         due("page of nothing", x.page(0, 0, 0, 1, 0, false), 28);
@@ -201,17 +202,17 @@ public final class PromiseTest {
         x.end(0);
         int[] bodies = {1, 254, 255, 256, 509, 510, 511};
         for (int body : bodies) {
-            SongWriter.lay(x, SongWriter.many(body, 3));
+            Songs.lay(x, SongWriter.many(body, 3));
             due("page of " + body, x.page(0, 0, 0, 1, 0, false), body + 27 + body / 255 + 1);
             due("page of " + body + " reads", x.read(), -3);
             due("page of " + body + ": its PACKET", x.look(7), body);
             due("page of " + body + ": one PACKET", x.look(2), 1);
         }
-        SongWriter.lay(x, SongWriter.many(255, 3));
+        Songs.lay(x, SongWriter.many(255, 3));
         due("page, open and even", x.page(0, 0, 0, 1, 0, true), 255 + 28);
         due("page, open: nothing ends", x.read(), -1);
         due("page, open: it is a PAGE", x.look(0), 1);
-        SongWriter.lay(x, SongWriter.many(256, 3));
+        Songs.lay(x, SongWriter.many(256, 3));
         due("page, open and not even", x.page(0, 0, 0, 1, 0, true), -1);
         due("page, open and not even: nothing happens", x.taped(), 256);
         due("page from 1, open", x.page(1, 0, 0, 1, 0, true), 256 + 28);
@@ -220,7 +221,7 @@ public final class PromiseTest {
     }
 
     /** Made by page(), and by hand by the document's words: both read alike, down to the GRANULE. */
-    private static void pageWritesItsFields(SongReader x) {
+    private static void pageWritesItsFields(Reader x) {
         List<Integer> setup = packet(plainSetup(1, 1));
         List<Integer> silence = SongWriter.row(0);
         long[] granules = {0, 1, 31, 32, 33, -1, Long.MIN_VALUE, 1L << 32, 5L << 40};
@@ -232,19 +233,19 @@ public final class PromiseTest {
             layPage(x, 256 + 4, granules[i], 1, silence);
             due("page with GRANULE " + granules[i], x.read(), samples[i]);
         }
-        SongWriter.lay(x, setup);
+        Songs.lay(x, setup);
         x.page(0, 2, 0, 0xfedcba98, 0, false);
-        SongWriter.lay(x, SongModel.pageOf(0, 0, 0xfedcba98, 1, SongWriter.row(1), SongWriter.row(0)));
-        SongWriter.lay(x, SongModel.pageOf(0, 0, 0x7edcba98, 1, SongWriter.row(1), SongWriter.row(0)));
+        Songs.lay(x, SongModel.pageOf(0, 0, 0xfedcba98, 1, SongWriter.row(1), SongWriter.row(0)));
+        Songs.lay(x, SongModel.pageOf(0, 0, 0x7edcba98, 1, SongWriter.row(1), SongWriter.row(0)));
         x.read();
         due("page with SERIAL", x.look(0), 2);
         due("page with another SERIAL", x.look(1), 1);
     }
 
     private static void promise5PageAtItsLimits() {
-        SongReader x = new SongReader();
+        Reader x = new Reader();
         // 5949 bytes: 23 times 255 and 84, 24 LACES: 27 + 24 + 5949 is 6000.
-        SongWriter.lay(x, SongWriter.many(5950, 1));
+        Songs.lay(x, SongWriter.many(5950, 1));
         due("page to 6001", x.page(0, 0, 0, 1, 0, false), -1);
         due("page to 6001: nothing happens", x.taped(), 5950);
         x.end(5949);
@@ -254,16 +255,17 @@ public final class PromiseTest {
         due("page to 6000 reads", x.read(), -1);
         due("page to 6000 is right", x.look(0), 1);
         due("page to 6000: too long a PACKET", x.look(6), 1);
-        SongWriter.lay(x, SongWriter.many(5973, 1));
-        due("page to 6000, open", x.page(5973, 0, 0, 1, 0, true), 6000);
-        due("page, no more room", x.page(5974, 0, 0, 1, 0, false), -1);
+        Reader other = new Reader();
+        Songs.lay(other, SongWriter.many(5973, 1));
+        due("page to 6000, open", other.page(5973, 0, 0, 1, 0, true), 6000);
+        due("page, no more room", other.page(5974, 0, 0, 1, 0, false), -1);
     }
 
     private static void promise6Pages() {
-        SongReader x = new SongReader();
+        Reader x = new Reader();
         List<Integer> setup = packet(plainSetup(1, 1));
         // Among anything: bytes that look like the start of a PAGE, a harmed PAGE, a right one inside it.
-        SongWriter.lay(x, SongWriter.row(79, 79, 103, 79, 103, 103, 83, 0, 1));
+        Songs.lay(x, SongWriter.row(79, 79, 103, 79, 103, 103, 83, 0, 1));
         layPage(x, 0, 0, 0, setup);
         int harmed = x.taped();
         List<Integer> inner = SongModel.pageOf(0, 0, 1, 1, SongWriter.row(1), SongWriter.row(0));
@@ -306,7 +308,7 @@ public final class PromiseTest {
     }
 
     /** The bytes with a CRC of their own, put right byte by byte by the document's words. */
-    private static int readRightCrc(SongReader x, List<Integer> page) {
+    private static int readRightCrc(Reader x, List<Integer> page) {
         int row = 0;
         for (int i = 0; i < page.size(); i++) {
             row ^= (i >= 22 && i < 26 ? 0 : page.get(i)) << 24;
@@ -317,18 +319,18 @@ public final class PromiseTest {
         for (int i = 0; i < 4; i++) {
             page.set(22 + i, row >>> (8 * i) & 255);
         }
-        SongWriter.lay(x, page);
+        Songs.lay(x, page);
         return x.read();
     }
 
-    private static void openPage(SongReader x, int flags, int number, int bytes) {
+    private static void openPage(Reader x, int flags, int number, int bytes) {
         int from = x.taped();
-        SongWriter.lay(x, SongWriter.many(bytes, 7));
+        Songs.lay(x, SongWriter.many(bytes, 7));
         x.page(from, flags, 0, 1, number, true);
     }
 
     private static void promise6PacketsOverPages() {
-        SongReader x = new SongReader();
+        Reader x = new Reader();
         openPage(x, 0, -1, 255);
         x.page(x.taped(), 1, 0, 1, 0, true);
         openPage(x, 1, 1, 255);
@@ -344,14 +346,14 @@ public final class PromiseTest {
         // Several PACKETS of one PAGE, the first of which goes on.
         openPage(x, 0, 0, 255);
         List<Integer> laces = SongWriter.row(2, 0, 3, 255);
-        SongWriter.lay(x, SongModel.pageOf(1, 0, 1, 1, laces, SongWriter.many(260, 8)));
+        Songs.lay(x, SongModel.pageOf(1, 0, 1, 1, laces, SongWriter.many(260, 8)));
         due("many PACKETS of a PAGE", x.read(), -3);
         due("many PACKETS of a PAGE: what is begun at the end does not count", x.look(2), 3);
         due("many PACKETS of a PAGE: the longest", x.look(7), 257);
     }
 
     private static void promise6PacketsThrownAway() {
-        SongReader x = new SongReader();
+        Reader x = new Reader();
         // Not GOES ON: what is begun is thrown away, what the PAGE has counts.
         openPage(x, 0, 0, 255);
         layPage(x, 0, 0, 1, SongWriter.row(86));
@@ -359,12 +361,12 @@ public final class PromiseTest {
         due("not GOES ON: the new one", x.look(7), 1);
         // A wrong NUMBER: the rest of the PACKET is thrown away, too.
         openPage(x, 0, 0, 255);
-        SongWriter.lay(x, SongModel.pageOf(1, 0, 1, 2, SongWriter.row(255, 4, 1), SongWriter.many(260, 86)));
+        Songs.lay(x, SongModel.pageOf(1, 0, 1, 2, SongWriter.row(255, 4, 1), SongWriter.many(260, 86)));
         due("a wrong NUMBER", x.read(), -2);
         due("a wrong NUMBER: PACKETS", x.look(2), 1);
         // The first PAGE has GOES ON and nothing is begun; its LACES are all 255, so nothing is begun then, either.
         openPage(x, 1, 0, 255);
-        SongWriter.lay(x, SongModel.pageOf(1, 0, 1, 1, SongWriter.row(5, 1), SongWriter.many(6, 86)));
+        Songs.lay(x, SongModel.pageOf(1, 0, 1, 1, SongWriter.row(5, 1), SongWriter.many(6, 86)));
         due("GOES ON of nothing", x.read(), -2);
         due("GOES ON of nothing: PACKETS", x.look(2), 1);
         // Without GOES ON a wrong NUMBER does no harm.
@@ -381,7 +383,7 @@ public final class PromiseTest {
     }
 
     private static void promise6PacketLimits() {
-        SongReader x = new SongReader();
+        Reader x = new Reader();
         List<Integer> two = SongWriter.many(2000, 86);
         readSong(x, two);
         due("a PACKET of 2000", x.look(2), 1);
@@ -400,20 +402,22 @@ public final class PromiseTest {
         due("too long, thrown away", x.look(6), 0);
         due("too long, thrown away: the next counts", x.look(2), 1);
         // All of it up to its end: over PAGES.
-        openPage(x, 0, 0, 2040);
-        openPage(x, 1, 1, 255);
-        SongWriter.lay(x, SongModel.pageOf(1, 0, 1, 2, SongWriter.row(2, 1), SongWriter.row(86, 86, 86)));
-        due("too long, over PAGES", x.read(), -2);
-        due("too long, over PAGES: told", x.look(6), 1);
-        due("too long, over PAGES: the rest", x.look(2), 1);
-        sixtyPackets(x);
+        Reader over = new Reader();
+        openPage(over, 0, 0, 2040);
+        openPage(over, 1, 1, 255);
+        Songs.lay(over, SongModel.pageOf(1, 0, 1, 2, SongWriter.row(2, 1), SongWriter.row(86, 86, 86)));
+        due("too long, over PAGES", over.read(), -2);
+        due("too long, over PAGES: told", over.look(6), 1);
+        due("too long, over PAGES: the rest", over.look(2), 1);
+        sixtyPackets();
     }
 
-    private static void sixtyPackets(SongReader x) {
+    private static void sixtyPackets() {
+        Reader x = new Reader();
         layPage(x, 0, 0, 0, packet(plainSetup(1, 1)));
-        SongWriter.lay(x, SongModel.pageOf(0, 0, 1, 1, SongWriter.many(59, 1), SongWriter.many(59, 0)));
-        SongWriter.lay(x, SongModel.pageOf(0, 0, 1, 2, SongWriter.row(9, 0), SongWriter.many(9, 0)));
-        SongWriter.lay(x, SongModel.pageOf(0, 0, 1, 3, SongWriter.row(255, 255, 255, 255, 255, 255, 255, 255, 0),
+        Songs.lay(x, SongModel.pageOf(0, 0, 1, 1, SongWriter.many(59, 1), SongWriter.many(59, 0)));
+        Songs.lay(x, SongModel.pageOf(0, 0, 1, 2, SongWriter.row(9, 0), SongWriter.many(9, 0)));
+        Songs.lay(x, SongModel.pageOf(0, 0, 1, 3, SongWriter.row(255, 255, 255, 255, 255, 255, 255, 255, 0),
             SongWriter.many(2040, 0)));
         due("60 PACKETS count", x.read(), 58 * 16);
         due("60 PACKETS count: told", x.look(2), 60);
@@ -424,7 +428,7 @@ public final class PromiseTest {
     }
 
     private static void promise6SetupFaults() {
-        SongReader x = new SongReader();
+        Reader x = new Reader();
         due("no PACKET", x.read(), -1);
         due("an empty PACKET", readSong(x, new ArrayList<>()), -2);
         due("not 86", setupFault(new SongWriter().put(85, 8)), -3);
@@ -446,7 +450,7 @@ public final class PromiseTest {
         classFaults();
     }
 
-    private static void leaningBitIsNeeded(SongReader x) {
+    private static void leaningBitIsNeeded(Reader x) {
         for (int channels = 1; channels <= 2; channels++) {
             SongWriter bits = new SongWriter().start(channels, 1).book(1, 1, 1).posts(1, 0, 1, 2, 3).classes(0, 0, 8);
             due("bits come out even", bits.bits() % 8, 0);
@@ -546,7 +550,7 @@ public final class PromiseTest {
     }
 
     private static void dueOneFactor(String what, SongWriter setup, SongWriter sound, long factor) {
-        SongReader x = new SongReader();
+        Reader x = new Reader();
         List<Integer> silence = SongWriter.row(0);
         due(what, readSong(x, setup.bytes(), silence, sound.bytes(), silence), 32);
         long[] halves = halvesOf(factor);
@@ -565,7 +569,7 @@ public final class PromiseTest {
                 int[] numbers = {7, 1};
                 int first = numbers[entry % 2] * 5 - 3;
                 int second = numbers[entry / 2 % 2] * 5 - 3 + (adding == 1 ? first : 0);
-                SongReader x = new SongReader();
+                Reader x = new Reader();
                 SongWriter sound = new SongWriter().put(1, 1).put(255, 8).put(255, 8).word("0").word(words[entry]).word("1");
                 readSong(x, setup.bytes(), SongWriter.row(0), sound.bytes());
                 dueNumbers("ENTRY " + entry + (adding == 1 ? " adding" : ""), x, first, second);
@@ -578,7 +582,7 @@ public final class PromiseTest {
         for (int k = 0; k < 16; k++) {
             sound.word("0").word(k == 0 ? "0" : "1");
         }
-        SongReader x = new SongReader();
+        Reader x = new Reader();
         readSong(x, signs.bytes(), SongWriter.row(0), sound.bytes());
         long[] numbers = new long[16];
         java.util.Arrays.fill(numbers, -128);
@@ -593,7 +597,7 @@ public final class PromiseTest {
     }
 
     /** The SAMPLES of one SOUND behind silence, at full height, from its numbers, by the document's sums. */
-    private static void dueNumbers(String what, SongReader x, long... numbers) {
+    private static void dueNumbers(String what, Reader x, long... numbers) {
         long[] factors = new long[16];
         for (int k = 0; k < 16 && k < numbers.length; k++) {
             factors[k] = numbers[k] * 256;
@@ -601,7 +605,7 @@ public final class PromiseTest {
         dueFactors(what, x, 0, factors);
     }
 
-    private static void dueFactors(String what, SongReader x, int channel, long[] factors) {
+    private static void dueFactors(String what, Reader x, int channel, long[] factors) {
         int[] window = {15, 138, 379, 726, 1160, 1652, 2167, 2665, 3110, 3476, 3748, 3928, 4031, 4078, 4094, 4096};
         for (int n = 0; n < 16; n++) {
             long total = 2048;
@@ -628,7 +632,7 @@ public final class PromiseTest {
     }
 
     private static void dueHeights(String what, SongWriter setup, SongWriter curve, int... heights) {
-        SongReader x = new SongReader();
+        Reader x = new Reader();
         for (int i = 0; i < 32; i++) {
             curve.word("0");
         }
@@ -709,7 +713,7 @@ public final class PromiseTest {
         // Part 0: ENTRY 0, CLASS 0: ENTRIES 1 and 2: 30 10, 10 30. Part 1: ENTRY 3: none. Part 2: ENTRY 2: CLASS 0.
         SongWriter sound = new SongWriter().put(1, 1).put(255, 8).put(255, 8)
             .word("00").word("01").word("10").word("11").word("10").word("11").word("00").word("01");
-        SongReader x = new SongReader();
+        Reader x = new Reader();
         readSong(x, setup.bytes(), SongWriter.row(0), sound.bytes());
         dueNumbers("RESTS", x, 30, 10, 10, 30, 0, 0, 0, 0, 30, 30, 10, 10, 0, 0, 0, 0);
         // Without LEANING a SILENT CHANNEL tells no numbers: what comes is the second's.
@@ -755,7 +759,7 @@ public final class PromiseTest {
                     told[1][k] = a;
                     sound.word("0").word(words[a + 1]);
                 }
-                SongReader x = new SongReader();
+                Reader x = new Reader();
                 readSong(x, setup.bytes(), SongWriter.row(0), sound.bytes());
                 dueLeaning("LEANING of " + m + " and " + a, x, told, -1);
             }
@@ -782,13 +786,13 @@ public final class PromiseTest {
                     sound.word("0").word(words[which]);
                 }
             }
-            SongReader x = new SongReader();
+            Reader x = new Reader();
             due("LEANING", readSong(x, setup.bytes(), SongWriter.row(0), sound.bytes()), 16);
             dueLeaning("LEANING, SILENT " + (silent - 1), x, told, silent - 1);
         }
     }
 
-    private static void dueLeaning(String what, SongReader x, int[][] told, int silent) {
+    private static void dueLeaning(String what, Reader x, int[][] told, int silent) {
         long[] first = new long[16];
         long[] second = new long[16];
         for (int k = 0; k < 16; k++) {
@@ -804,7 +808,7 @@ public final class PromiseTest {
     }
 
     private static void promise6EarlyEnds() {
-        SongReader x = new SongReader();
+        Reader x = new Reader();
         SongWriter setup = new SongWriter().start(1, 2).lengths(1, 1, 1).values(50, 50, false, 1, 1, 0)
             .book(1, 0, 1).posts(1, 1, 8).classes(0, 1, 0);
         List<Integer> silence = SongWriter.row(0);
@@ -831,7 +835,7 @@ public final class PromiseTest {
         endsInRests(x);
     }
 
-    private static void endsInRests(SongReader x) {
+    private static void endsInRests(Reader x) {
         // Two CHANNELS, both heard; the end is in the first's numbers: the second's are 0, too.
         SongWriter setup = new SongWriter().start(2, 2).lengths(1, 1, 1).values(50, 50, false, 1, 1, 0)
             .book(1, 1).posts(1, 1).classes(0, 1, 0).put(0, 1);
@@ -864,7 +868,7 @@ public final class PromiseTest {
                     sound.word("0").word(k == loud ? "0" : "1");
                     factors[k] = ((k == loud ? 255 * 255 - 128 : -128) * table(height)) >> 8;
                 }
-                SongReader x = new SongReader();
+                Reader x = new Reader();
                 readSong(x, setup.bytes(), SongWriter.row(0), sound.bytes());
                 dueFactors("SUMS of k " + loud + " at height " + height, x, 0, factors);
             }
@@ -878,7 +882,7 @@ public final class PromiseTest {
         for (int k = 1; k < 16; k++) {
             sound.word("0").word("1");
         }
-        SongReader x = new SongReader();
+        Reader x = new Reader();
         List<Integer> nothing = new ArrayList<>();
         due("one SOUND gives nothing", readSong(x, setup.bytes(), sound.bytes()), 0);
         // What is passed over between leaves the halves as they lie.
@@ -900,13 +904,13 @@ public final class PromiseTest {
     }
 
     private static void promise6EndCut() {
-        SongReader x = new SongReader();
         List<Integer> setup = packet(plainSetup(2, 1).put(0, 1));
         long[] granules = {0, 1, 15, 31, 32, 100, -1, Long.MIN_VALUE, Long.MAX_VALUE, 1L << 32, (1L << 32) + 3};
         int[] samples = {0, 1, 15, 31, 32, 32, 32, 32, 32, 32, 32};
         for (int i = 0; i < granules.length; i++) {
             for (int flags = 0; flags < 8; flags++) {
                 boolean last = flags >= 4;
+                Reader x = new Reader();
                 layPage(x, 0, 5, 0, setup);
                 layPage(x, 4, 5, 1, SongWriter.row(0));
                 layPage(x, 0, 5, 2, SongWriter.row(0));
@@ -919,8 +923,8 @@ public final class PromiseTest {
         }
     }
 
-    private static SongReader loudSong() {
-        SongReader x = new SongReader();
+    private static Reader loudSong() {
+        Reader x = new Reader();
         SongWriter setup = new SongWriter().start(2, 2).lengths(1, 1, 1).values(20, 200, false, 8, 255, 0)
             .book(1, 1).posts(1, 1).classes(0, 1, 0).put(0, 1);
         SongWriter sound = new SongWriter().put(1, 1).put(200, 8).put(255, 8).put(1, 1).put(220, 8).put(210, 8)
@@ -937,7 +941,7 @@ public final class PromiseTest {
     }
 
     private static void promise7Sample() {
-        SongReader x = loudSong();
+        Reader x = loudSong();
         due("sample: the last is none of 0", x.sample(0, 29) != 0, true);
         due("sample behind the cut", x.sample(0, 30), 0);
         due("sample behind all", x.sample(1, 32), 0);
@@ -954,7 +958,7 @@ public final class PromiseTest {
     }
 
     private static void promise8Look() {
-        SongReader x = loudSong();
+        Reader x = loudSong();
         int[] looks = {4, 0, 4, 3, 0, 2, 0, 13};
         for (int what = 0; what < 8; what++) {
             due("look " + what, x.look(what), looks[what]);
@@ -978,7 +982,7 @@ public final class PromiseTest {
     }
 
     private static void promise9Sum() {
-        SongReader x = loudSong();
+        Reader x = loudSong();
         for (int channel = 0; channel < 2; channel++) {
             int total = 0;
             for (int i = 0; i < 30; i++) {
@@ -995,7 +999,7 @@ public final class PromiseTest {
         due("sum is gone behind read", x.sum(0), 0);
     }
 
-    private static void sumGoesRound(SongReader x) {
+    private static void sumGoesRound(Reader x) {
         // 59 loud SOUNDS: 928 SAMPLES near their bounds, whose sum goes round.
         SongWriter setup = new SongWriter().start(1, 2).lengths(1, 1, 1).values(0, 255, false, 8, 255, 0)
             .book(1, 1).posts(1, 1).classes(0, 1, 0);
@@ -1007,23 +1011,25 @@ public final class PromiseTest {
             bodies.addAll(sound.bytes());
         }
         layPage(x, 0, 0, 0, setup.bytes());
-        SongWriter.lay(x, SongModel.pageOf(0, 0, 1, 1, laces, bodies));
+        Songs.lay(x, SongModel.pageOf(0, 0, 1, 1, laces, bodies));
         due("a long song", x.read(), 928);
+        // Like SOUNDS give like blocks of sixteen SAMPLES: the first and the last are looked at.
         long total = 0;
-        for (int i = 0; i < 928; i++) {
-            total += (long) x.sample(0, i) * (i + 1);
+        for (int n = 0; n < 16; n++) {
+            long value = x.sample(0, n);
+            due("like SOUNDS give like SAMPLES, " + n, x.sample(0, 912 + n), value);
+            for (int i = n; i < 928; i += 16) {
+                total += value * (i + 1);
+            }
         }
         due("the sum goes round", x.sum(0), (int) total);
         due("the sum goes round indeed", total != (int) total, true);
         due("no SAMPLE behind the last", x.sample(0, 928), 0);
-        for (int i = 16; i < 928; i++) {
-            due("like SOUNDS give like SAMPLES, " + i, x.sample(0, i), x.sample(0, i % 16));
-        }
         due("they are heard", x.sample(0, 0) != 0, true);
     }
 
     private static void promise10Taped() {
-        SongReader x = new SongReader();
+        Reader x = new Reader();
         due("taped of none", x.taped(), 0);
         x.feed(0, 0, 0, 0, 0);
         due("taped of a feed", x.taped(), 20);

@@ -179,7 +179,7 @@ final class SongModel {
         }
     }
 
-    private static int crcOf(List<Integer> bytes) {
+    static int crcOf(List<Integer> bytes) {
         long row = 0;
         for (int b : bytes) {
             row ^= (long) b << 24;

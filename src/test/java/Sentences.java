@@ -25,15 +25,16 @@ abstract class Sentences {
 
     /**
      * The TAPE has just these bytes: with the bits turned in which they differ from a right PAGE's, it is that PAGE.
-     * The TAPE is used up.
+     * That one is twenty bytes longer: of two PAGES of the same length, both right, the difference is right, too,
+     * so another PAGE than the one due would not show. The TAPE is used up.
      */
     final void dueBytes(String what, Reader x, List<Integer> bytes) {
         due(what + ": how many bytes", x.taped(), bytes.size());
         List<Integer> all = new ArrayList<>(bytes);
-        while (all.size() < 28) {
+        do {
             x.feed(0, 0, 0, 0, 0);
             all.addAll(SongWriter.many(20, 0));
-        }
+        } while (all.size() < 28);
         List<Integer> page = Songs.pageOfSize(all.size());
         for (int i = 0; i < all.size(); i++) {
             x.harm(i, all.get(i) ^ page.get(i));
